@@ -42,7 +42,9 @@ public final class OracleTest {
     private static void oneRun(int run) {
         WordLinks x = new WordLinks();
         Model m = new Model();
-        String[][] stock = {words(3 + pick(12)), words(3 + pick(12))};
+        // with many words and pairs the limits of both are met
+        boolean isFull = run % 8 == 0;
+        String[][] stock = {words(isFull ? 60 : 3 + pick(12)), words(isFull ? 60 : 3 + pick(12))};
         int calls = 512;
         while (calls > 30) {
             calls -= oneStep(run, x, m, stock);

@@ -157,8 +157,14 @@ public final class PromisesTest {
         x = new WordLinks();
         due("six words of seven letters", pairs(x, times("abcdefg", 6, " ") + "=" + times("zyxwvut", 6, " ")), 1);
         due("twelve clauses", pairs(x, times("a b=c", 12, ";")), 13);
-        String text = times("abcdef abcdef abcdef=ghi", 8, ";") + "=";
-        due("200 bytes, a fault at the last", pairs(x, text.substring(0, 199) + "="), -1199);
+        // 199 bytes, then two more letters
+        String text = times("abcdef abcdef abcdef=ghi", 8, ";");
+        put(x, text + "jkl");
+        due("201 bytes", x.pairs(201), -1);
+        due("tape stays", x.count(2), 220);
+        due("200 bytes", x.pairs(200), 21);
+        due("the last letter", x.at(20, 1, 0) == x.at(19, 1, 0), false);
+        due("200 bytes, a fault at the last", pairs(x, text + "="), -1199);
     }
 
     private static void pairsFaults() {
@@ -266,6 +272,11 @@ public final class PromisesTest {
         sheetFault(times("a", 8, ",") + "|" + times("b", 8, ","), 16);
         sheetFault("a b,c|d", 3);
         WordLinks x = with("a=b");
+        String text = times("abcdefg", 6, " ") + "," + times("abcdefg", 6, " ") + "|" + times("abcdefg", 6, " ") + ","
+                + times("abcdefg", 6, " ") + "," + times("a", 3, " ");
+        put(x, text + " abcdeff");
+        due("201 bytes", x.sheets(201), -1);
+        due("200 bytes", x.sheets(200), 5);
         put(x, "a|b");
         due("n of 0", x.sheets(0), -1);
         due("n of 201", x.sheets(201), -1);
@@ -381,8 +392,9 @@ public final class PromisesTest {
         due("shares are begun", x.share(0, 0, 0), 33334);
         due("no partner any more", x.share(0, 2, 2), 50000);
         due("drop", x.drop(), 1);
-        due("pairs again", pairs(x, "das buch=the book"), 2);
-        due("forgotten for good", x.tell(1, 0, 0, false), -2);
+        due("pairs again", pairs(x, "das buch=the book;ein buch=a book"), 3);
+        due("forgotten for good", x.tell(2, 0, 0, false), -2);
+        x.drop();
         x.drop();
         due("drop", x.drop(), 0);
         due("words", x.side(0, 0), 0);
@@ -942,6 +954,11 @@ public final class PromisesTest {
         for (String bad : new String[] {" a", "a ", "a  b", "A", "a=b", "abcdefgh", "a;b"}) {
             due("no such row: " + bad, over(x, 2, bad, 0), -2);
         }
+        String longest = times("a", 8, " ") + times(" ", 66, "");
+        put(x, longest);
+        due("81 bytes", x.over(2, 81, 0), -1);
+        due("80 bytes, but no such row", x.over(2, 80, 0), -2);
+        due("tape is empty", x.count(2), 0);
         put(x, "a");
         for (int what : new int[] {-1, 3, 9, 18, 99, 124}) {
             due("no such what", x.over(2, 1, what), -1);
@@ -1061,6 +1078,15 @@ public final class PromisesTest {
         due("shares not 0", x.tried(5, 4), full);
         due("nothing stays", x.fit(0, -1), fit);
         due("nothing stays", x.even(), 0);
+        // behind two rounds no link of the second pair is in both, so none grows; kind 5 has two
+        y = with("d=y;c b=w x y");
+        y.tell(1, 0, 0, true);
+        due("agree of kind 4, not of 5", y.tried(2, 3), 0);
+        y.rounds(0, 2);
+        y.rounds(1, 2);
+        due("kind 4", y.linked(4, 1), 0);
+        due("kind 5", y.linked(5, 1), 2);
+        due("kind 5 agrees", y.agree(5), 6666);
         x.placed(true);
         x.tried(3, 0);
         due("near shares neither", x.near(0, 0), 12500);
@@ -1089,6 +1115,16 @@ public final class PromisesTest {
         }
         due("the greatest", before, 10000);
         due("now none is needed", x.bestRounds(2), 0);
+        // a share that rises slowly: it is not below least behind the thirtieth round alone
+        x = with("a=x;b a=y");
+        WordLinks y = with("a=x;b a=y");
+        y.rounds(0, 29);
+        int nearly = y.share(0, 0, 0);
+        y.rounds(0, 1);
+        x.least(y.share(0, 0, 0));
+        due("the share rises still", nearly < y.share(0, 0, 0), true);
+        x.tell(0, 0, 0, true);
+        due("thirty rounds", x.bestRounds(0), 30);
         due("no such kind", x.bestRounds(6), -1);
         due("no such kind", x.bestRounds(-1), -1);
     }

@@ -589,6 +589,28 @@ final class LinkEdges {
         Edge.due("boxes of its row", x.phrase(0, 0, 3), 24);
     }
 
+    static void promise30_whatWasAskedBeforeDoesNotCount() {
+        WordLinks x = Edge.with("a=x;a=y;b=y");
+        Edge.due("three", x.phrases(0), 3);
+        Edge.due("boxes of a's row", x.phrase(0, 0, 3), 2);
+        x.drop();
+        x.drop();
+        Edge.due("one", x.phrases(0), 1);
+        Edge.due("boxes of a's row", x.phrase(0, 0, 3), 1);
+        Edge.due("cost", x.phrase(0, 0, 4), 50);
+        Edge.due("no second one", x.phrase(0, 1, 0), -1);
+        x = Edge.with(Edge.BOOKS);
+        for (int kind = 0; kind < KINDS; kind++) {
+            x.phrases((kind + 1) % KINDS);
+            for (int phrase = 0; phrase < x.phrases(kind); phrase++) {
+                x.phrases((kind + 3) % KINDS);
+                WordLinks y = Edge.with(Edge.BOOKS);
+                Edge.due("boxes of its row", x.phrase(kind, phrase, 3), y.phrase(kind, phrase, 3));
+                Edge.due("boxes", x.phrase(kind, phrase, 0), y.phrase(kind, phrase, 0));
+            }
+        }
+    }
+
     // ---- promise 31: over
 
     static void promise31_kindsNAndWhatThatThereAre() {
@@ -717,6 +739,21 @@ final class LinkEdges {
         Edge.due("-3, then x", Edge.over(x, 1, "b a b", 101), 0);
         x.least(100000);
         Edge.due("without phrases", Edge.over(x, 2, "a b c", 0), 6000);
+    }
+
+    static void promise31_aPhrasesRowIsTheWordsThemselves() {
+        WordLinks x = Edge.with("a=x;b=y;c d=z w;e f=v");
+        Edge.due("b's phrase", Edge.over(x, 2, "b", 10), 1);
+        Edge.due("b's word", Edge.over(x, 2, "b", 100), 1);
+        Edge.due("b a", Edge.over(x, 2, "b a", 10), 1);
+        Edge.due("then a", Edge.over(x, 2, "b a", 11), 0);
+        Edge.due("e alone is in no phrase", Edge.over(x, 1, "e", 10), 9999);
+        Edge.due("f alone is in none", Edge.over(x, 1, "a f", 0), 2050);
+        Edge.due("e f is in one", Edge.over(x, 1, "e f", 0), 50);
+        Edge.due("f e is in none", Edge.over(x, 1, "f e", 0), 4000);
+        Edge.due("e e is in none", Edge.over(x, 1, "e e", 0), 4000);
+        Edge.due("a row goes on behind it", Edge.over(x, 1, "e f e f b", 0), 150);
+        Edge.due("a row that ends ahead of it", Edge.over(x, 1, "e f e", 0), 2050);
     }
 
     static void promise31_theLeastCostThenTheFewestPieces() {

@@ -445,6 +445,8 @@ final class TextEdges {
     static void promise04_sheetsComeInPlaceOfThoseBefore() {
         WordLinks x = new WordLinks();
         Edge.due("sheets", Edge.sheets(x, "a,b,c|d,e"), 5);
+        Edge.due("of side 0", x.matched(2), 3);
+        Edge.due("of side 1", x.matched(3), 2);
         Edge.due("sheets", Edge.sheets(x, "ff|g"), 2);
         Edge.due("of side 0", x.matched(2), 1);
         Edge.due("of side 1", x.matched(3), 1);
@@ -705,7 +707,7 @@ final class TextEdges {
     static void promise06_tooManyWordsOfASentenceComeAheadOfTooManyPairs() {
         String text = "a b c,d e f g|abc defg";
         Edge.leavesAll(() -> withSheets(Edge.sized(24, 4, 3), text), "joins", -5, x -> x.joins());
-        Edge.leavesAll(() -> withSheets(Edge.sized(24, 40, 40), text), "joins", -5, x -> x.joins());
+        Edge.leavesAll(() -> withSheets(Edge.sized(24, 40, 3), text), "joins", -5, x -> x.joins());
     }
 
     static void promise06_partsOfOneSideAloneDontCome() {
@@ -819,6 +821,21 @@ final class TextEdges {
         Edge.due("partners", x.word(0, 0, 2), 1);
         Edge.due("no partner", x.share(0, 0, 1), -2);
         Edge.due("share", x.share(0, 0, 0), 100000);
+        Edge.due("partners, back", x.word(1, 1, 2), 1);
+        Edge.due("no partner, back", x.share(1, 1, 0), -2);
+        Edge.due("share, back", x.share(1, 1, 1), 100000);
+    }
+
+    static void promise07_wordsOfAPairThatWentDontComeBack() {
+        WordLinks x = Edge.with("a=x;b c d=y z w");
+        x.drop();
+        Edge.pairs(x, "b=y;e=v");
+        Edge.due("a, b, e", x.side(0, 0), 3);
+        Edge.due("drop", x.drop(), 2);
+        Edge.due("a, b", x.side(0, 0), 2);
+        Edge.due("x, y", x.side(1, 0), 2);
+        Edge.due("places", x.side(0, 1), 2);
+        Edge.due("no second place", x.at(1, 0, 1), -2);
     }
 
     static void promise07_itsToldLinksAreForgotten() {

@@ -124,6 +124,20 @@ final class TrialEdges {
         Edge.due("2 by 3, cut", x.agree(2), 6666);
     }
 
+    static void promise33_ofAllPairs() {
+        WordLinks x = Edge.sized(24, 1, 1);
+        for (int pair = 0; pair < 24; pair++) {
+            x.tell(pair, 0, 0, true);
+            Edge.due("all of those told", x.agree(2), 10000);
+        }
+        Edge.pairs(x, "aa=aa");
+        x.drop();
+        Edge.due("all of 23", x.agree(2), 10000);
+        Edge.pairs(x, "aa aa=aa aa");
+        x.tell(23, 0, 1, true);
+        Edge.due("23 of 24 and 25", x.agree(2), 9387);
+    }
+
     static void promise33_pairsWithoutToldLinksDontCount() {
         WordLinks x = Edge.with("a b=x y;c=z;d e f=u v w");
         x.tell(0, 0, 0, true);
@@ -186,6 +200,17 @@ final class TrialEdges {
         x = Edge.with("a=x y");
         Edge.due("one", x.twins(0), 1);
         Edge.due("the lower one", x.twins(10), 0);
+        // b's first is y and y's first is a; a's first by letters is the second word of side 1
+        x = Edge.with("a=x y;b=y");
+        Edge.due("a", x.twins(10), 0);
+        Edge.due("b", x.twins(11), -2);
+        x = Edge.byLetters("a=x a");
+        Edge.due("a, though it is x's first, too", x.twins(10), 1);
+        // more words of side 0 than of side 1
+        x = Edge.byLetters("a b=b");
+        Edge.due("b alone", x.twins(0), 1);
+        Edge.due("a", x.twins(10), -2);
+        Edge.due("b", x.twins(11), 0);
     }
 
     // ---- promise 35: tried
@@ -234,6 +259,67 @@ final class TrialEdges {
                 Edge.leavesAll("tried(" + n + ", " + what + ")", shown(y, what), x -> x.tried(n, of));
             }
         }
+    }
+
+    private static WordLinks told(String text, int least) {
+        WordLinks x = Edge.with(text);
+        x.least(least);
+        x.tell(0, 0, 0, true);
+        x.tell(x.count(0) - 1, 0, 0, true);
+        return x;
+    }
+
+    /** Behind one round it is so, behind two it is not: so that no more and no fewer rounds are tried. */
+    private static void onlyBehindOne(String text, int least, int what, int want) {
+        WordLinks x = told(text, least);
+        Edge.due("what " + what + " behind one round", x.tried(1, what), want);
+        Edge.due("another one behind two", x.tried(2, what) == want, false);
+        Edge.due("another one ahead of it", shown(x, what) == want, false);
+        x.rounds(0, 1);
+        x.rounds(1, 1);
+        Edge.due("by rounds that stay", shown(x, what), want);
+    }
+
+    static void promise35_justSoManyRoundsAndJustTheseKinds() {
+        String links2 = "d e d=e d;d=d";
+        String links3 = "b e=d c;d b=c";
+        String agree4 = "e e d=a;e=a e";
+        onlyBehindOne(links2, 35000, 0, 2);
+        onlyBehindOne(links3, 50000, 1, 5);
+        onlyBehindOne("d b=d e;e b=e c", 40000, 2, 2);
+        onlyBehindOne(agree4, 40000, 3, 5000);
+        WordLinks x = told(links2, 35000);
+        x.rounds(0, 1);
+        x.rounds(1, 1);
+        for (int kind : new int[] {0, 1, 3, 4, 5}) {
+            Edge.due("kind " + kind + " is not kind 2", x.linked(kind, -1) == 2, false);
+        }
+        x = told(links3, 50000);
+        x.rounds(0, 1);
+        x.rounds(1, 1);
+        for (int kind : new int[] {0, 1, 2, 4, 5}) {
+            Edge.due("kind " + kind + " is not kind 3", x.linked(kind, -1) == 5, false);
+        }
+        x = told(agree4, 40000);
+        x.rounds(0, 1);
+        x.rounds(1, 1);
+        for (int kind : new int[] {0, 1, 2, 3, 5}) {
+            Edge.due("kind " + kind + " is not kind 4", x.agree(kind) == 5000, false);
+        }
+    }
+
+    static void promise35_sharesNot0OfEachWay() {
+        WordLinks x = Edge.with("a=d d e;d=e");
+        Edge.due("both ways", x.tried(20, 4), 5);
+        x.rounds(0, 20);
+        Edge.due("of way 0", x.word(0, 0, 5) + x.word(0, 1, 5), 0);
+        x.rounds(1, 20);
+        Edge.due("of way 1 one is 0", x.word(1, 0, 5) + x.word(1, 1, 5), 1);
+        Edge.due("a round changes none of it", x.tried(1, 4), 5);
+        x = Edge.with("a=x;b c=y z;a b=x y");
+        x.drop();
+        x.drop();
+        Edge.due("none of pairs that went", x.tried(1, 4), 2);
     }
 
     static void promise35_nothingStaysOfNearSharesEither() {
@@ -428,16 +514,50 @@ final class TrialEdges {
         Edge.due("no pair to drop", x.drop(), -1);
     }
 
+    static void promise38_wordsAndPlacesAreAsTheyWereKept() {
+        WordLinks x = Edge.with("a bc=x;d=yz a");
+        x.keep();
+        x.drop();
+        x.drop();
+        Edge.pairs(x, "m=n o p q r s;t u v=w");
+        Edge.due("other words", Edge.find(x, 0, "m"), 0);
+        Edge.due("undo", x.undo(), true);
+        Edge.due("a", Edge.find(x, 0, "a"), 0);
+        Edge.due("bc", Edge.find(x, 0, "bc"), 1);
+        Edge.due("d", Edge.find(x, 0, "d"), 2);
+        Edge.due("no m", Edge.find(x, 0, "m"), -2);
+        Edge.due("yz", Edge.find(x, 1, "yz"), 1);
+        Edge.due("places of side 0", x.side(0, 1), 3);
+        Edge.due("places of side 1", x.side(1, 1), 3);
+        int[][] words = {{0, 1, -2}, {0, -2, -2}, {2, -2, -2}, {1, 2, -2}};
+        for (int k = 0; k < 12; k++) {
+            Edge.due("place " + k % 3 + " of " + k / 3, x.at(k / 6, k / 3 % 2, k % 3), words[k / 3][k % 3]);
+        }
+        Edge.due("partners of d", x.word(0, 2, 2), 2);
+        Edge.due("no partner", x.share(0, 0, 1), -2);
+        Edge.due("no partner, back", x.share(1, 1, 0), -2);
+    }
+
     static void promise38_aFullStateIsKeptToo() {
         WordLinks x = Edge.sized(24, 40, 40);
         x.tell(23, 0, 0, true);
         x.keep();
-        for (int k = 0; k < 20; k++) {
+        for (int k = 0; k < 24; k++) {
             x.drop();
         }
+        Edge.pairs(x, Edge.times("zy zz=zy zz", 12, ";"));
+        Edge.due("others", Edge.pairs(x, Edge.times("zz zy=zz zy", 12, ";")), 24);
         x.undo();
         Edge.due("pairs", x.count(0), 24);
         Edge.due("words", x.side(0, 0), 40);
+        for (int word = 0; word < 40; word++) {
+            Edge.due("place of word " + word, x.at(word / 6, 0, word % 6), word);
+            Edge.due("place of word " + word, x.at(word / 6, 1, word % 6), word);
+        }
+        for (int pair = 7; pair < 24; pair++) {
+            Edge.due("word of pair " + pair, x.at(pair, 0, 0), 0);
+            Edge.due("no second one", x.at(pair, 1, 1), -2);
+        }
         Edge.due("word 39", x.word(1, 39, 11), Edge.named(39).charAt(1));
         Edge.due("told", x.tell(23, 0, 0, true), -2);
         Edge.due("a 25th pair", Edge.pairs(x, "aa=aa"), -3);

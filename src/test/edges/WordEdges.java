@@ -264,6 +264,11 @@ final class WordEdges {
         x = Edge.with("a=x y z");
         Edge.due("of 3: the first gets what is left", x.share(0, 0, 0), 33334);
         Edge.due("then none", x.share(0, 0, 1), 33333);
+        x = Edge.with("b=x y;a=z y x");
+        Edge.due("by numbers, not as they are met: x", x.share(0, 1, 0), 33334);
+        Edge.due("z", x.share(0, 1, 2), 33333);
+        x = Edge.with("a a a=x x y");
+        Edge.due("a partner that is met often counts once", x.share(0, 0, 0), 50000);
     }
 
     static void promise18_aShareOf0IsNoMissingPartner() {

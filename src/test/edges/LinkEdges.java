@@ -56,6 +56,11 @@ final class LinkEdges {
         Edge.due("both", x.links(2, 0, 0), 1);
         Edge.due("one or both", x.links(3, 0, 0), 63);
         Edge.due("grown", x.links(4, 0, 0), 63);
+        x = Edge.onePair(6, 1);
+        Edge.due("it goes to the first", Edge.links(x, 0, 0, 6), "(0,0)");
+        Edge.due("all of side 0 go to one", Edge.links(x, 1, 0, 6), "(0,0)(1,0)(2,0)(3,0)(4,0)(5,0)");
+        Edge.due("both", Edge.links(x, 2, 0, 6), "(0,0)");
+        Edge.due("grown to the last place", Edge.links(x, 4, 0, 6), "(0,0)(1,0)(2,0)(3,0)(4,0)(5,0)");
         x = Edge.onePair(6, 6);
         for (int kind = 0; kind < KINDS; kind++) {
             Edge.due("kind " + kind, Edge.links(x, kind, 0, 6), "(0,0)(1,1)(2,2)(3,3)(4,4)(5,5)");
